@@ -250,24 +250,14 @@ public final class BeamPieces {
         if (!canRoll(what) || !beam.isPlace(place)) {
             return NO;
         }
-        int front = 0;
-        for (int p = 0; p <= MOST_FRONT; p++) {
-            solveRolling(p);
-            front = pickFront(statics.bend[place], p, front);
-        }
-        return what == 2 ? front : answer.told(what);
+        return mostByRolling(statics.bend, place, what);
     }
 
     public long presses(int k, int what) {
         if (!canRoll(what) || !beam.isSupport(k)) {
             return NO;
         }
-        int front = 0;
-        for (int p = 0; p <= MOST_FRONT; p++) {
-            solveRolling(p);
-            front = pickFront(statics.up[k], p, front);
-        }
-        return what == 2 ? front : answer.told(what);
+        return mostByRolling(statics.up, k, what);
     }
 
     public long unit(int at, int place, int part) {
@@ -303,7 +293,7 @@ public final class BeamPieces {
             statics.solve();
             statics.tellSpan(answer);
             if (place == from || answer.against(rival) < 0) {
-                rival.become(answer.above, answer.below);
+                rival.copy(answer);
                 found = place;
             }
         }
@@ -471,7 +461,7 @@ public final class BeamPieces {
         return list >= 0 && list < LISTS;
     }
 
-    /** Every division of longs goes through here, so that none is by 0. */
+    /** Every division by what is counted goes through here, so that none is by 0. */
     private static long divide(long a, long b) {
         return b == 0 ? 0 : a / b;
     }
@@ -525,17 +515,20 @@ public final class BeamPieces {
         return beam.stands() && beam.axles > 0 && what >= 0 && what <= 2;
     }
 
-    /** Which front is the better one: the answer holds what the one so far makes. */
-    private int pickFront(long above, int p, int soFar) {
-        rival.become(above, statics.below);
-        if (p == 0 || rival.against(answer) > 0) {
-            answer.become(rival.above, rival.below);
-            return p;
+    private long mostByRolling(long[] aboveOf, int i, int what) {
+        int front = 0;
+        for (int p = 0; p <= MOST_FRONT; p++) {
+            solveRolling(p);
+            rival.become(aboveOf[i], statics.below);
+            if (p == 0 || rival.against(answer) > 0) {
+                answer.copy(rival);
+                front = p;
+            }
         }
-        return soFar;
+        return what == 2 ? front : answer.told(what);
     }
 
-    /** Division tells nothing too large: most by f is compared with SPAN instead of f times SPAN with most. */
+    /** SPAN is compared with most by f: f times SPAN could be too large for a long. */
     private int timesWithin(int most) {
         for (int f = MOST_TIMES; f > 0; f--) {
             rival.become(most, f);
@@ -569,6 +562,11 @@ public final class BeamPieces {
             long sign = b < 0 ? -1 : 1;
             above = sign * divide(a, shared);
             below = Math.max(1, sign * divide(b, shared));
+        }
+
+        void copy(Fraction other) {
+            above = other.above;
+            below = other.below;
         }
 
         long told(int part) {
@@ -1066,7 +1064,7 @@ public final class BeamPieces {
             findPeaks();
             into.become(-bottom.much.above, bottom.much.below);
             if (top.much.against(into) > 0) {
-                into.become(top.much.above, top.much.below);
+                into.copy(top.much);
             }
         }
 
@@ -1153,8 +1151,8 @@ public final class BeamPieces {
             if (isThere && way * newMuch.against(much) <= 0) {
                 return;
             }
-            much.become(newMuch.above, newMuch.below);
-            where.become(newWhere.above, newWhere.below);
+            much.copy(newMuch);
+            where.copy(newWhere);
             isThere = true;
         }
     }
@@ -1275,14 +1273,14 @@ public final class BeamPieces {
 
         private int wordWithin(int from, int end) {
             for (int w = 0; w < WORDS; w++) {
-                if (stands(from, end, spelled(w))) {
+                if (spells(from, end, spelled(w))) {
                     return w;
                 }
             }
             return -1;
         }
 
-        private boolean stands(int from, int end, String text) {
+        private boolean spells(int from, int end, String text) {
             if (text.length() != end - from) {
                 return false;
             }
