@@ -204,60 +204,93 @@ public final class ModelTest {
         }
     }
 
-    /** All supports and hinges that the longest beam can have, with the heaviest loads among others. */
+    /** All supports and hinges that beams of each length can have, with the heaviest loads among others. */
     private static int everyFrame() {
         Random random = new Random(7);
         int bad = 0;
-        for (int bits = 0; bits < 1 << 11; bits++) {
-            if (Integer.bitCount(bits) < 2 || Integer.bitCount(bits) > 4) {
-                continue;
-            }
-            for (int hinges = 0; hinges < 4; hinges++) {
-                bad += oneFrame(bits, hinges, random) ? 0 : 1;
+        for (int length = 2; length <= 10; length++) {
+            for (int bits = 0; bits < 1 << length + 1; bits++) {
+                int supports = Integer.bitCount(bits);
+                for (int hinges = 0; supports >= 2 && supports <= 4 && hinges < 1 << supports - 2; hinges++) {
+                    // five are enough to see what is wrong
+                    bad += bad >= 5 || oneFrame(length, bits, hinges, random) ? 0 : 1;
+                }
             }
         }
         return bad;
     }
 
-    private static boolean oneFrame(int bits, int hinges, Random random) {
+    private static boolean oneFrame(int length, int bits, int hinges, Random random) {
         ModelTest test = new ModelTest(bits);
-        BeamPieces real = test.real;
-        Model model = test.model;
-        boolean same = test.same("beam 10", real.beam(10), model.beam(10));
-        int number = 0;
-        for (int p = 0; p <= 10; p++) {
-            if ((bits >> p & 1) == 1) {
-                real.support(p);
-                model.support(p);
-                test.told.append("support ").append(p).append('\n');
-                int is = number > 0 ? hinges >> number - 1 & 1 : 0;
-                same &= test.same("hinge " + p + " " + is, real.hinge(p, is), model.hinge(p, is));
-                number++;
-            }
-        }
-        boolean heavy = random.nextBoolean();
-        for (int i = 0; i < 6; i++) {
-            int from = heavy ? 0 : random.nextInt(10);
-            int to = heavy ? 10 : from + 1 + random.nextInt(10 - from);
-            int v = heavy ? (i < 5 ? 9 : 8) : random.nextInt(19) - 9;
-            same &= test.same("spread " + from + " " + to + " " + v, real.spread(from, to, v), model.spread(from, to, v));
-        }
-        for (int what = 0; what < 4; what++) {
-            same &= test.same("greatest 0 " + what, real.greatest(0, what), model.greatest(0, what));
-            same &= test.same("greatest 1 " + what, real.greatest(1, what), model.greatest(1, what));
-            same &= test.same("reaction " + what, real.reaction(what, 0), model.reaction(what, 0));
-        }
-        for (int p = 0; p <= 10; p++) {
-            same &= test.same("sag " + p, real.sag(p, 0), model.sag(p, 0));
-            same &= test.same("sag below " + p, real.sag(p, 1), model.sag(p, 1));
-            same &= test.same("shear " + p, real.shear(p, 0), model.shear(p, 0));
-            same &= test.same("moment " + p, real.moment(p * 97, 97, 0), model.moment(p * 97, 97, 0));
-            same &= test.same("moment near " + p, real.moment(p * 96 + 5, 97, 1), model.moment(p * 96 + 5, 97, 1));
-        }
-        same &= test.same("prints", real.prints(), model.prints());
+        boolean same = test.supportsOf(length, bits, hinges)
+            & test.loadsOf(length, random) & test.axlesOf(random) & test.answersOf(length, random);
         if (!same) {
             System.out.println(test.told);
         }
         return same;
+    }
+
+    private boolean supportsOf(int length, int bits, int hinges) {
+        boolean same = same("beam " + length, real.beam(length), model.beam(length));
+        int number = 0;
+        for (int p = 0; p <= length; p++) {
+            if ((bits >> p & 1) == 1) {
+                same &= same("support " + p, real.support(p), model.support(p));
+                int is = number > 0 ? hinges >> number - 1 & 1 : 0;
+                same &= same("hinge " + p + " " + is, real.hinge(p, is), model.hinge(p, is));
+                number++;
+            }
+        }
+        return same;
+    }
+
+    private boolean loadsOf(int length, Random random) {
+        boolean same = true;
+        int kind = random.nextInt(3);
+        for (int i = 0; i < 6; i++) {
+            int v = kind == 0 ? (i < 5 ? 9 : 8) : random.nextInt(19) - 9;
+            if (kind == 2 && random.nextBoolean()) {
+                int p = random.nextInt(length + 1);
+                same &= same("point " + p + " " + v, real.point(p, v), model.point(p, v));
+            } else {
+                int from = kind == 0 ? 0 : random.nextInt(length);
+                int to = kind == 0 ? length : from + 1 + random.nextInt(length - from);
+                same &= same("spread " + from + " " + to + " " + v, real.spread(from, to, v), model.spread(from, to, v));
+            }
+        }
+        return same;
+    }
+
+    private boolean axlesOf(Random random) {
+        boolean same = true;
+        for (int i = random.nextInt(4); i > 0; i--) {
+            int behind = random.nextInt(10);
+            int weight = 1 + random.nextInt(9);
+            same &= same("axle " + behind + " " + weight, real.axle(behind, weight), model.axle(behind, weight));
+        }
+        return same;
+    }
+
+    private boolean answersOf(int length, Random random) {
+        boolean same = true;
+        for (int what = 0; what < 4; what++) {
+            same &= same("greatest 0 " + what, real.greatest(0, what), model.greatest(0, what));
+            same &= same("greatest 1 " + what, real.greatest(1, what), model.greatest(1, what));
+            same &= same("reaction " + what, real.reaction(what, 0), model.reaction(what, 0));
+            same &= same("hinged " + what, real.hinged(what, 0), model.hinged(what, 0));
+        }
+        int k = random.nextInt(4);
+        same &= same("best " + k, real.best(k), model.best(k));
+        int turn = random.nextInt(3);
+        same &= same("presses " + k + " " + turn, real.presses(k, turn), model.presses(k, turn));
+        same &= same("rolls " + k + " " + turn, real.rolls(k, turn), model.rolls(k, turn));
+        for (int p = 0; p <= length; p++) {
+            same &= same("sag " + p, real.sag(p, 0), model.sag(p, 0));
+            same &= same("sag below " + p, real.sag(p, 1), model.sag(p, 1));
+            same &= same("shear " + p, real.shear(p, 0), model.shear(p, 0));
+            same &= same("moment " + p, real.moment(p * 97, 97, 0), model.moment(p * 97, 97, 0));
+            same &= same("moment near " + p, real.moment(p * 96 + 5, 97, 1), model.moment(p * 96 + 5, 97, 1));
+        }
+        return same & same("lowest", real.lowest(), model.lowest()) & same("prints", real.prints(), model.prints());
     }
 }
